@@ -24,6 +24,8 @@ public final class CopiedFire {
     private static final int MOST_COOL = 9;
     private static final int LAST_MINUTE = 9999;
     private static final int LAST_THOUGHT = 200;
+    /** More than can ever burn. */
+    private static final int ENDLESS = 0x7fffffff;
     private static final int HOT_FROM = 50;
     private static final int SEAT_BELOW = 30;
 
@@ -308,7 +310,7 @@ public final class CopiedFire {
             return BAD;
         }
         thought.becomeAs(now);
-        thinkOn(n, Integer.MAX_VALUE);
+        thinkOn(n, ENDLESS);
         switch (what) {
             case 0:
                 return thought.burnt;
@@ -354,7 +356,7 @@ public final class CopiedFire {
         }
         int bestOne = NONE;
         int bestOther = NONE;
-        int least = Integer.MAX_VALUE;
+        int least = ENDLESS;
         for (int one = 0; one < ROOMS; one++) {
             for (int other = one + 1; other < ROOMS; other++) {
                 if (now.doorBetween(one, other) == OPEN_DOOR) {
@@ -384,7 +386,7 @@ public final class CopiedFire {
         for (int wind = 0; wind <= MOST_WIND; wind += 10) {
             thought.becomeAs(now);
             thought.wind = wind;
-            int burnt = thinkOn(n, Integer.MAX_VALUE);
+            int burnt = thinkOn(n, ENDLESS);
             if (burnt > most) {
                 best = wind;
                 most = burnt;
@@ -398,7 +400,7 @@ public final class CopiedFire {
             return BAD;
         }
         int best = 0;
-        int least = Integer.MAX_VALUE;
+        int least = ENDLESS;
         for (int kind = 0; kind < KINDS; kind++) {
             thought.becomeAs(now);
             thought.kinds[thing] = kind;
@@ -1228,7 +1230,7 @@ public final class CopiedFire {
                     stack[top] = step;
                     top++;
                 } else if (step == -'!' && top >= 1) {
-                    stack[top - 1] = truth(stack[top - 1] == 0);
+                    stack[top - 1] = stack[top - 1] == 0 ? 1 : 0;
                 } else if (top >= 2) {
                     top--;
                     stack[top - 1] = joined(-step, stack[top - 1], stack[top]);
@@ -1240,15 +1242,15 @@ public final class CopiedFire {
         private static int joined(int sign, int a, int b) {
             switch (sign) {
                 case '|':
-                    return truth(a != 0 || b != 0);
+                    return a != 0 || b != 0 ? 1 : 0;
                 case '&':
-                    return truth(a != 0 && b != 0);
+                    return a != 0 && b != 0 ? 1 : 0;
                 case '<':
-                    return truth(a < b);
+                    return a < b ? 1 : 0;
                 case '=':
-                    return truth(a == b);
+                    return a == b ? 1 : 0;
                 case '>':
-                    return truth(a > b);
+                    return a > b ? 1 : 0;
                 case '+':
                     return a + b;
                 case '-':
@@ -1258,10 +1260,6 @@ public final class CopiedFire {
                 default:
                     return b == 0 ? 0 : a / b;
             }
-        }
-
-        private static int truth(boolean holds) {
-            return holds ? 1 : 0;
         }
     }
 
@@ -1353,34 +1351,33 @@ public final class CopiedFire {
 
         private void goOn() {
             boolean behindWord = token == LETTERS || token == DIGITS;
-            int behind = next;
-            start = endOfRow(next, ' ', ' ');
-            boolean tight = behindWord && start == behind;
+            int before = next;
+            start = endOfRow(before, ' ', ' ');
             if (start >= tape.length) {
                 token = END;
                 next = start;
-            } else if (isByteWithin(start, 'a', 'z')) {
+                return;
+            }
+            boolean tight = behindWord && start == before;
+            int first = tape.bytes[start];
+            if (within(first, 'a', 'z')) {
                 token = tight ? TIGHT : LETTERS;
                 next = endOfRow(start, 'a', 'z');
-            } else if (isByteWithin(start, '0', '9')) {
+            } else if (within(first, '0', '9')) {
                 token = tight ? TIGHT : DIGITS;
                 next = endOfRow(start, '0', '9');
             } else {
-                token = tape.bytes[start];
+                token = first;
                 next = start + 1;
             }
         }
 
         private int endOfRow(int from, int least, int most) {
             int end = from;
-            while (end < tape.length && isByteWithin(end, least, most)) {
+            while (end < tape.length && within(tape.bytes[end], least, most)) {
                 end++;
             }
             return end;
-        }
-
-        private boolean isByteWithin(int place, int least, int most) {
-            return place < tape.length && within(tape.bytes[place], least, most);
         }
 
         private int keyRead() {
