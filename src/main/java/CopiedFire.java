@@ -1062,7 +1062,7 @@ public final class CopiedFire {
         private void spreadHeat() {
             for (int one = 0; one < ROOMS; one++) {
                 for (int other = one + 1; other < ROOMS; other++) {
-                    if (doorBetween(one, other) == OPEN_DOOR) {
+                    if (doors[one * ROOMS + other] == OPEN_DOOR) {
                         int over = (heats[one] - heats[other]) / 4;
                         heats[one] -= over;
                         heats[other] += over;

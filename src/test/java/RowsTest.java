@@ -70,6 +70,8 @@ public final class RowsTest {
             tellAll(x, rows, 2 * n);
             due.is("all of " + n, x.check(n), 0);
             due.is("none wait", x.count(6), 0);
+            tellAll(x, rows, 2 * n - 1);
+            due.is("what waited before counts no more", x.check(n), 2 * n);
             for (int wrong = 0; wrong < 2 * n; wrong++) {
                 x = fire();
                 x.keep();
@@ -199,13 +201,18 @@ public final class RowsTest {
         x.likes(0, 1);
         x.heats(6, 66);
         x.door(6, 7, 2);
-        x.rule(0, 1);
+        x.rule(0, 100);
         x.rule(1, 8);
         x.seed(5);
+        for (int room = 0; room < 7; room++) {
+            x.door(room, 7, 1);
+        }
         Due.text(x, "burn 0");
         Due.text(x, "fee 0");
         Due.text(x, "fine 0");
+        int slams = x.house(2);
         x.minutes(30);
+        due.holds("doors slam", x.house(2) > slams);
         due.holds("it has changed", !before.equals(allOf(x)));
         due.is("back", x.back(), 3);
         due.holds("all is as the image", before.equals(allOf(x)));

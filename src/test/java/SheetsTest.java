@@ -125,8 +125,11 @@ public final class SheetsTest {
             due.is("lit of " + i, x.told(i, 3), i % 2);
         }
         due.is("again", x.pour(0), 0);
+        x.mark(0, 0, 8);
+        due.is("the first alone", x.pour(0), 1);
+        due.is("fuel of the first", x.told(0, 2), 8);
         x.sheet(0, 0, 24);
-        due.is("all become 0", x.pour(0), 5);
+        due.is("all become 0", x.pour(0), 6);
         x.sheet(1, 0, 0);
         due.is("no places", x.pour(1), 0);
     }

@@ -63,7 +63,7 @@ public final class TextsTest {
     /** Each text with the place of its fault; -1: it has none. */
     private static void faults() {
         Object[][] rows = {
-            {"", 0}, {" ", 1}, {"b", 0}, {"bur", 0}, {"burnt 1", 0}, {"  fees 1", 2}, {"Burn 1", 0}, {"1", 0},
+            {"", 0}, {" ", 1}, {"b", 0}, {"bur", 0}, {"xee 1", 0}, {"fex 1", 0}, {"fxe 1", 0}, {"burnt 1", 0}, {"  fees 1", 2}, {"Burn 1", 0}, {"1", 0},
             {"(burn 1)", 0}, {"burn", 4}, {"fee  ", 5}, {"fee1", 3}, {"fee(1)", -1}, {"fee!1", -1}, {"feeb", 0},
             {"fee b", -1}, {" fee  b ", -1}, {"fee f", 4}, {"burn b", 5}, {"fine h", 5}, {"fine f", -1},
             {"fine r", -1}, {"burn f", -1}, {"burn h", -1}, {"burn n", -1}, {"fee a", -1}, {"fine n", 5},

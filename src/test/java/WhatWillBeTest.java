@@ -364,6 +364,10 @@ public final class WhatWillBeTest {
         due.is("fine of another", x.fine(0), 6);
         Due.text(x, "fee 0-a");
         due.is("the fee told last, and not held", x.fee(), -1);
+        CopiedFire y = new CopiedFire();
+        y.thing(0, 4, 9, 0);
+        Due.text(y, "fine r");
+        due.is("fine by the first text of all", y.fine(0), 4);
         due.is("fine(-1)", x.fine(-1), BAD);
         due.is("fine(2)", x.fine(2), BAD);
     }
