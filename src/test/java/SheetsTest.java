@@ -129,7 +129,8 @@ public final class SheetsTest {
         due.is("the first alone", x.pour(0), 1);
         due.is("fuel of the first", x.told(0, 2), 8);
         x.sheet(0, 0, 24);
-        due.is("all become 0", x.pour(0), 6);
+        x.mark(0, 6, 9);
+        due.is("all become 0, and there is no seventh", x.pour(0), 6);
         x.sheet(1, 0, 0);
         due.is("no places", x.pour(1), 0);
     }
