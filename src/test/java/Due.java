@@ -20,10 +20,19 @@ final class Due {
         is(what, truth ? 1 : 0, 1);
     }
 
+    /** Something was asked, and no answer was wrong. */
+    boolean passed() {
+        return wrong == 0 && calls > 0;
+    }
+
+    int calls() {
+        return calls;
+    }
+
     /** Ends the test: with exit code 1 if an answer was wrong, or if nothing was asked. */
     void end() {
         System.out.println(name + ": " + (calls - wrong) + " of " + calls + " answers are as due");
-        if (wrong != 0 || calls == 0) {
+        if (!passed()) {
             System.exit(1);
         }
     }
