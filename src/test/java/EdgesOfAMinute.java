@@ -58,6 +58,7 @@ final class EdgesOfAMinute {
         x.door(0, 1, 2);
         x.minutes(1);
         due.is("a quarter of 99 goes over, not of 115", x.heat(1), 24);
+        due.is("99 less that", x.heat(0), 75);
     }
 
     @Sentence(of = "Terms 2", says = "HEAT of its ROOM more by what it GIVES of that")
@@ -117,6 +118,15 @@ final class EdgesOfAMinute {
         CopiedFire in = chain(last, 7, 64);
         due.is("5 and 7 first", in.heat(5), 16);
         due.is("then 6 and 7, the last two", in.heat(6), 12);
+    }
+
+    @Sentence(of = "Terms 2", says = "(2) Each two ROOMS")
+    static void whatBurnsNowGoesOverNow(Due due) {
+        CopiedFire x = oneThing(0, 50, 1);
+        x.door(0, 1, 2);
+        x.minutes(1);
+        due.is("a quarter of the 5 that it gave", x.heat(1), 1);
+        due.is("the rest stays", x.heat(0), 4);
     }
 
     @Sentence(of = "Terms 2", says = "with an open DOOR:")

@@ -198,7 +198,8 @@ final class EdgesOfTexts {
     static void theBytesBesideLettersAndDigits(Due due) {
         int[] beside = {0, 31, '"', '.', ':', '@', 'A', 'Z', '[', '`', '{', 127, 128, 255};
         for (int b : beside) {
-            faults(due, "fee " + (char) b + "b", 4, "fee b" + (char) b, 5, "fe" + (char) b + "e 1", 0, "fee" + (char) b, 3);
+            String sign = String.valueOf((char) b);
+            faults(due, "fee " + sign + "b", 4, "fee b" + sign, 5, "fee 1" + sign, 5, "fe" + sign + "e 1", 0, "fee" + sign, 3);
         }
         gives(due, "2/1", 2);
     }

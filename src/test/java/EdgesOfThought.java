@@ -485,6 +485,11 @@ final class EdgesOfThought {
         CopiedFire x = Twins.still();
         fill(x, 0, 50);
         due.is("all the same", x.like(0, 0), 0);
+        for (int room = 0; room < 8; room++) {
+            x.heats(room, 1);
+            due.is("one alone", x.like(0, 0), room);
+            x.heats(room, 0);
+        }
         x.heats(7, 1);
         due.is("the last is nearest", x.like(0, 0), 7);
         x.heats(6, 99);
