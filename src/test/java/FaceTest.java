@@ -6,6 +6,7 @@ import java.lang.reflect.Modifier;
 import java.nio.charset.StandardCharsets;
 import java.nio.file.Files;
 import java.nio.file.Path;
+import java.util.Arrays;
 import java.util.Set;
 import java.util.TreeSet;
 import java.util.regex.Matcher;
@@ -123,8 +124,15 @@ public final class FaceTest {
                 }
                 methods++;
                 due.holds("short: " + lines[i].trim(), end - i < 60);
+                makesNothing(lines[i].trim(), String.join("\n", Arrays.asList(lines).subList(i, end)));
             }
         }
         due.holds("methods were found", methods > 80);
+    }
+
+    /** All calls of a run share one room: rows are made by constructors, and by a call only the one text that it takes. */
+    private static void makesNothing(String head, String body) {
+        boolean mayMake = head.matches("(public )?[A-Z]\\w*\\(.*") || head.startsWith("Text madeText(");
+        due.holds("makes nothing: " + head, mayMake || !Pattern.compile("\\bnew\\b|copyOf|clone").matcher(body).find());
     }
 }
